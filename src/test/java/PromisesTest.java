@@ -1,4 +1,4 @@
-/** Each promise by answers worked out by hand: ordinary inputs, edges and wrong inputs. */
+/** Each promise by written-out answers: ordinary inputs, edges and wrong inputs. */
 public final class PromisesTest {
     private static final int MIN = Integer.MIN_VALUE;
     private static final int MAX = Integer.MAX_VALUE;
