@@ -136,6 +136,14 @@ public final class ModelTest {
             return row;
         }
 
+        int times(int k, int s) {
+            if (!points.contains(s)) {
+                return NO_POINT;
+            }
+            List<Integer> row = multiples(s);
+            return row.get(Math.floorMod(k, row.size()));
+        }
+
         int rootsAt(int x) {
             int found = 0;
             for (int s : points) {
@@ -233,8 +241,44 @@ public final class ModelTest {
         due(model, "add(" + s + ", " + t + ")", desk.next().add(s, t), model.sum(s, t));
     }
 
+    /** The ends of the ints and of what is taken, near -1 and 0, and ints that are points but for p. */
+    private static int[] edges(Model model) {
+        int p = model.p;
+        int s = model.points.get(0);
+        return new int[] {Integer.MIN_VALUE, Integer.MIN_VALUE + 1, -4097, -4096, -p, -3, -2, -1, 0, 1, 2,
+            40, 41, p - 1, p, p + 1, 999, 1000, 1001, 4095, 4096, model.points.size() - 1,
+            model.points.size(), s, s + p, s - p, s + 4096 * p, s + (1 << 24), 4096 * (p - 1) + p - 1,
+            4096 * (p - 1) + p, 4096 * p, (1 << 24) - 1, 1 << 24, Integer.MAX_VALUE - 1, Integer.MAX_VALUE};
+    }
+
+    /** Every int is an argument; a wrong one has its answer, too. */
+    private static void compareEdges(Model model, Desk desk) {
+        int known = model.points.get(0);
+        for (int v : edges(model)) {
+            boolean there = model.points.contains(v);
+            boolean number = v >= 0 && v < model.p;
+            due(model, "on(" + v + ")", desk.next().on(v) ? 1 : 0, there ? 1 : 0);
+            due(model, "add(" + v + ", s)", desk.next().add(v, known), there ? model.sum(v, known) : NO_POINT);
+            due(model, "add(s, " + v + ")", desk.next().add(known, v), there ? model.sum(known, v) : NO_POINT);
+            due(model, "negative(" + v + ")", desk.next().negative(v), there ? model.negative(v) : NO_POINT);
+            due(model, "order(" + v + ")", desk.next().order(v), there ? model.multiples(v).size() : NO_POINT);
+            for (int k : edges(model)) {
+                due(model, "times(" + k + ", " + v + ")", desk.next().times(k, v), model.times(k, v));
+                due(model, "division(" + k + ", " + v + ")", desk.next().division(k, v),
+                    number && k >= 0 && k <= 40 ? model.divisionValues(v)[k].longValue() : -1);
+            }
+            due(model, "roots(" + v + ")", desk.next().roots(v), number ? model.rootsAt(v) : -1);
+            due(model, "twist(" + v + ")", desk.next().twist(v), number && v != 0 ? model.twist(v) : -1);
+            due(model, "point(" + v + ")", desk.next().point(v),
+                v >= 0 && v < model.points.size() ? model.points.get(v) : NO_POINT);
+            due(model, "trace(" + v + ")", desk.next().trace(v),
+                v >= 2 && v <= 1000 ? Math.floorMod(model.p + 1 - model.points.size(), v) : -1);
+        }
+    }
+
     private static void compareAll(Model model, Desk desk) {
         compareWhole(model, desk);
+        compareEdges(model, desk);
         for (int x = 0; x < model.p; x++) {
             compareNumber(model, desk, x);
         }
@@ -248,6 +292,7 @@ public final class ModelTest {
 
     private static void compareSome(Model model, Desk desk, Random random) {
         compareWhole(model, desk);
+        compareEdges(model, desk);
         compareNumber(model, desk, 0);
         compareNumber(model, desk, model.p - 1);
         for (int i = 0; i < 20; i++) {
