@@ -259,13 +259,11 @@ public final class PromisesTest {
     private static void promise13Division() {
         CurveDesk desk = desk(23, 1, 1);
         // At x 3: xxx + x + 1 = 31 = 8, q = 9; f3 = 243 + 54 + 36 - 1 = 332 = 10.
-        int[] want = {0, 1, 1, 10, 19, 10};
-        for (int n = 0; n < want.length; n++) {
-            due("division(" + n + ", 3)", desk.division(n, 3), want[n]);
-        }
-        due("division(7, 3)", desk.division(7, 3), 4);
-        due("division(40, 22) is a number", desk.division(40, 22) >= 0, true);
-        due("division(0, 22)", desk.division(0, 22), 0);
+        divisionsAre(desk, 3, new int[] {0, 1, 1, 10, 19, 10, 9, 4, 20, 16, 15, 7, 15, 3, 17, 7, 5, 8, 17,
+            5, 5, 10, 18, 16, 5, 13, 13, 15, 0, 18, 19, 14, 13, 20, 19, 18, 3, 1, 18, 15, 6});
+        // x 22 is -1: xxx + x + 1 = -1, q = -4; f3 = 3 + 6 - 12 - 1 = -4 = 19.
+        divisionsAre(desk, 22, new int[] {0, 1, 1, 19, 21, 9, 3, 12, 20, 2, 20, 21, 20, 11, 3, 14, 21, 4, 1,
+            22, 0, 1, 22, 19, 2, 9, 20, 12, 3, 2, 3, 21, 3, 11, 20, 14, 2, 4, 22, 22, 0});
         for (int n : new int[] {MIN, -1, 41, 42, MAX}) {
             due("division(" + n + ", 3)", desk.division(n, 3), -1);
         }
@@ -280,6 +278,12 @@ public final class PromisesTest {
         due("division(3, 0)", five.division(3, 0), 4);
     }
 
+    private static void divisionsAre(CurveDesk desk, int x, int[] want) {
+        for (int n = 0; n < want.length; n++) {
+            due("division(" + n + ", " + x + ")", desk.division(n, x), want[n]);
+        }
+    }
+
     private static void promise14Twist() {
         CurveDesk desk = desk(5, 1, 1);
         int[] want = {9, 3, 3, 9};
@@ -291,6 +295,28 @@ public final class PromisesTest {
         for (int g : new int[] {MIN, -1, 0, 5, 6, 4092, 4093, MAX}) {
             due("twist(" + g + ")", desk.twist(g), -1);
         }
+    }
+
+    /** The example of README.md, so that what it tells stays true. */
+    private static void readmeExample() {
+        CurveDesk desk = new CurveDesk();
+        due("README: curve(23, 1, 1)", desk.curve(23, 1, 1), 0);
+        due("README: count()", desk.count(), 28);
+        due("README: trace(7)", desk.trace(7), 3);
+        due("README: roots(3)", desk.roots(3), 2);
+        due("README: point(0)", desk.point(0), 1);
+        due("README: point(27)", desk.point(27), INFINITY);
+        int s = 4096 * 3 + 10;
+        due("README: on(s)", desk.on(s), true);
+        due("README: add(s, (9, 7))", desk.add(s, 4096 * 9 + 7), 4096 * 17 + 20);
+        due("README: negative(s)", desk.negative(s), 4096 * 3 + 13);
+        due("README: times(2, s)", desk.times(2, s), 4096 * 7 + 12);
+        due("README: order(s)", desk.order(s), 28);
+        due("README: times(28, s)", desk.times(28, s), INFINITY);
+        due("README: division(5, 3)", desk.division(5, 3), 10);
+        due("README: twist(5)", desk.twist(5), 20);
+        due("README: curve(9, 1, 1)", desk.curve(9, 1, 1), -1);
+        due("README: coefficient(0)", desk.coefficient(0), 23);
     }
 
     public static void main(String[] args) {
@@ -308,6 +334,7 @@ public final class PromisesTest {
         promise12Order();
         promise13Division();
         promise14Twist();
+        readmeExample();
         System.out.println(wrong == 0 ? "all answers are as due" : wrong + " answers are not as due");
         if (wrong != 0) {
             System.exit(1);
